@@ -30,6 +30,11 @@ final class Due {
         return x.mountain();
     }
 
+    /** A house's statement; it makes so many of a good and wants so many of a good. */
+    static String house(int kind, int figure, int height, String makes, String wants, int coin) {
+        return String.format("h%d%d%02d%s%s%d;", kind, figure, height, makes, wants, coin);
+    }
+
     /** A new object with a mountain that must be without fault. */
     static GoodsDownhill with(String letters) {
         GoodsDownhill x = new GoodsDownhill();
