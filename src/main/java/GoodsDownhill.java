@@ -70,27 +70,14 @@ public final class GoodsDownhill {
     }
 
     public int mountain() {
-        int wrong = letters.firstWrongPlace();
-        int answer = wrong >= 0 ? WRONG_LETTER - wrong : takeStatements();
-        letters.size = 0;
-        return answer;
-    }
-
-    /** Statements are tried in mind first, so that with a fault none of them has come. */
-    private int takeStatements() {
+        // Told in mind first, so that with a fault nothing of it has come.
         mind.copyFrom(now);
-        int statements = 0;
-        int start = 0;
-        while (start < letters.size) {
-            int end = letters.endOfStatement(start);
-            if (!letters.tell(mind, start, end)) {
-                return WRONG_STATEMENT - start;
-            }
-            statements++;
-            start = end + 1;
+        int answer = letters.tellTo(mind);
+        letters.size = 0;
+        if (answer > 0) {
+            now.copyFrom(mind);
         }
-        now.copyFrom(mind);
-        return statements;
+        return answer;
     }
 
     // ---- what there is ----
@@ -625,6 +612,7 @@ public final class GoodsDownhill {
             muleFrom = other.muleFrom;
         }
 
+        /** Whether there was room for it, and so it has come. */
         boolean addHouse(House house, int itsCoin) {
             if (size >= MOST_HOUSES) {
                 return false;
@@ -1004,7 +992,7 @@ public final class GoodsDownhill {
             }
         }
 
-        int endOfStatement(int start) {
+        private int endOfStatement(int start) {
             int end = start;
             while (end < size && signs[end] != ';') {
                 end++;
@@ -1025,42 +1013,53 @@ public final class GoodsDownhill {
             return number(place, place + 1);
         }
 
-        /** Whether the statement is as it must be, and so has come to the land. */
-        boolean tell(Land land, int start, int end) {
-            if (start < 0 || start >= size) {
-                return false;
+        /** How many statements came to the land; or the fault, with which the land may hold a part of them. */
+        int tellTo(Land land) {
+            int wrong = firstWrongPlace();
+            if (wrong >= 0) {
+                return WRONG_LETTER - wrong;
             }
-            switch (signs[start]) {
-                case 'h': return tellHouse(land, start, end);
-                case 'p': return tellPrice(land, start);
-                case 'l': return tellLaw(land, start);
-                case 'd': return tellDebt(land, start, end);
-                default: return false;
+            int statements = 0;
+            int start = 0;
+            while (start < size) {
+                int end = endOfStatement(start);
+                boolean fits;
+                switch (signs[start]) {
+                    case 'h': fits = tellHouse(land, start, end); break;
+                    case 'p': fits = tellPrice(land, start); break;
+                    case 'l': fits = tellLaw(land, start); break;
+                    default: fits = tellDebt(land, start, end); break;
+                }
+                if (!fits) {
+                    return WRONG_STATEMENT - start;
+                }
+                statements++;
+                start = end + 1;
             }
+            return statements;
         }
 
         private boolean tellHouse(Land land, int start, int end) {
-            int kind = digit(start + 1);
-            int madeGood = digit(start + 5);
-            int wantedGood = digit(start + 7);
-            if (kind > 5 || !isGood(madeGood) || !isGood(wantedGood) || land.size >= MOST_HOUSES) {
-                return false;
-            }
             int figure = digit(start + 2);
             int height = number(start + 3, start + 5);
-            House house = build(kind, figure, height, madeGood, digit(start + 6), wantedGood, digit(start + 8));
-            return land.addHouse(house, number(start + 9, end));
-        }
-
-        private static House build(int kind, int figure, int height, int made, int makes, int wanted, int wants) {
-            switch (kind) {
-                case 1: return new Cellared(figure, height, made, makes, wanted, wants);
-                case 2: return new Joined(figure, height, made, makes, wanted, wants);
-                case 3: return new Hermit(figure, height, made, makes, wanted, wants);
-                case 4: return new Market(figure, height, made, makes, wanted, wants);
-                case 5: return new Feigned(figure, height, made, makes, wanted, wants);
-                default: return new House(figure, height, made, makes, wanted, wants);
+            int made = digit(start + 5);
+            int makes = digit(start + 6);
+            int wanted = digit(start + 7);
+            int wants = digit(start + 8);
+            if (!isGood(made) || !isGood(wanted)) {
+                return false;
             }
+            House house;
+            switch (digit(start + 1)) {
+                case 0: house = new House(figure, height, made, makes, wanted, wants); break;
+                case 1: house = new Cellared(figure, height, made, makes, wanted, wants); break;
+                case 2: house = new Joined(figure, height, made, makes, wanted, wants); break;
+                case 3: house = new Hermit(figure, height, made, makes, wanted, wants); break;
+                case 4: house = new Market(figure, height, made, makes, wanted, wants); break;
+                case 5: house = new Feigned(figure, height, made, makes, wanted, wants); break;
+                default: return false;
+            }
+            return land.addHouse(house, number(start + 9, end));
         }
 
         private boolean tellPrice(Land land, int start) {

@@ -28,6 +28,11 @@ public final class MayBeTest {
         Due.due("but stands below", x.stuck(), 5 + 7);
         Due.due("stores stay", x.count(4), 5 + 4 + 7);
         Due.due("without houses", new GoodsDownhill().stuck(), 0);
+        for (int good = 0; good < 3; good++) {
+            GoodsDownhill one = Due.with(Due.house(0, 0, 50, good + "9", good + "0", 0));
+            one.week();
+            Due.due("all of good " + good, one.stuck(), 9);
+        }
         GoodsDownhill own = Due.with(Due.house(0, 0, 50, "09", "02", 0));
         own.week();
         Due.due("who wants it has none stuck", own.stuck(), 0);

@@ -151,13 +151,13 @@ public final class TradeTest {
 
     private static void whoSells() {
         GoodsDownhill x = Due.with(Due.house(0, 0, 90, "02", "00", 0) + Due.house(0, 0, 90, "04", "00", 0)
-            + Due.house(0, 0, 10, "10", "04", 50));
-        Due.due("week", x.week(), 4);
+            + Due.house(0, 0, 10, "10", "03", 50));
+        Due.due("week", x.week(), 3);
         Due.due("the one with the most, of several the least", x.house(0, 9), 1);
-        Due.due("the one with the most, piece by piece", x.house(1, 9), 3);
+        Due.due("the one with the most, piece by piece", x.house(1, 9), 2);
         Due.due("store(0, 0)", x.store(0, 0), 1);
-        Due.due("store(1, 0)", x.store(1, 0), 1);
-        Due.due("coin of the buyer", x.house(2, 9), 46);
+        Due.due("store(1, 0)", x.store(1, 0), 2);
+        Due.due("coin of the buyer", x.house(2, 9), 47);
     }
 
     private static void whoWantsSellsNone() {
